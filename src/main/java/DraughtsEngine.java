@@ -368,7 +368,8 @@ public final class DraughtsEngine {
         int piece = board[level * SQUARES + from];
         path[0] = from;
         nextDirection[0] = firstDirection(piece);
-        wentOn[0] = false;
+        // The first square alone is no move, so it never counts as a path that ended.
+        wentOn[0] = true;
         int last = 0;
         for (int step = 0; step < STEP_BOUND && last >= 0; step++) {
             int direction = findJump(level, piece, last);
@@ -376,7 +377,7 @@ public final class DraughtsEngine {
                 jump(piece, last, direction);
                 last++;
             } else {
-                if (last > 0 && !wentOn[last]) {
+                if (!wentOn[last]) {
                     keepPath(level, last + 1);
                 }
                 last--;
@@ -498,7 +499,6 @@ public final class DraughtsEngine {
 
     private void openLevel(int level) {
         nextMove[level] = 0;
-        bestMove[level] = NO_MOVE;
         bestValue[level] = BELOW_ALL_VALUES;
     }
 

@@ -57,7 +57,7 @@ public final class RandomRunsTest {
         }
     }
 
-    /** A game from the start or from few kings, to its end or for 200 plies. */
+    /** A game from the start or from few pieces, to its end or for 200 plies. */
     private static void wholeGame(int seed) {
         Random random = new Random(1000 + seed);
         int limit = seed % 2 == 0 ? 4 + random.nextInt(10) : 80;
@@ -70,7 +70,8 @@ public final class RandomRunsTest {
         }
         for (int ply = 0; ply < 200 && engine.status() == 0; ply++) {
             String call = "game " + seed + ", ply " + ply;
-            if (ply % 5 == 0) {
+            boolean nearDraw = limit < 80 && engine.drawCounter() >= limit - 3;
+            if (nearDraw || ply % 5 == 0) {
                 int depth = 1 + random.nextInt(3);
                 Due.is(call + " search", engine.search(depth), reference.search(depth));
             }
@@ -123,7 +124,7 @@ public final class RandomRunsTest {
     private static void scatter(Random random, int each, DraughtsEngine engine, Reference reference) {
         for (int n = 0; n < 2 * each; n++) {
             int square = random.nextInt(32);
-            int code = n % 2 == 0 ? 2 : 4;
+            int code = random.nextInt(4) == 0 ? 1 + random.nextInt(4) : n % 2 == 0 ? 2 : 4;
             Due.is("scatter", bit(engine.place(square, code)), bit(reference.place(square, code)));
         }
     }

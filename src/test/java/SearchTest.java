@@ -75,6 +75,11 @@ public final class SearchTest {
         Positions.shuttle(engine, 1);
         found("one ply from the limit", engine, 1, 0, 0);
         found("one ply from the limit", engine, 3, 0, 0);
+        engine = Positions.of(4, 0, 0, 2, 11, 1, 31, 4);
+        Positions.shuttle(engine, 3);
+        // Black's man could go on moving, but the game ends before that.
+        found("no play after the draw", engine, 2, 0, 0);
+        found("no play after the draw", engine, 3, 0, 0);
     }
 
     private static void aLossGoesBeforeADraw() {
