@@ -5,15 +5,30 @@ import java.util.List;
 final class Due {
     private static int calls = 0;
     private static int wrong = 0;
+    private static String heading = "";
 
     private Due() {
+    }
+
+    /** Runs the test of one sentence of the document; what goes wrong is printed under its words. */
+    static void sentence(String where, String words, Runnable test) {
+        heading = "[" + where + ": " + words + "] ";
+        int callsBefore = calls;
+        try {
+            test.run();
+            yes("the test asks something", calls > callsBefore);
+        } catch (RuntimeException thrown) {
+            wrong++;
+            System.out.println(heading + "threw " + thrown);
+        }
+        heading = "";
     }
 
     static void is(String call, long got, long want) {
         calls++;
         if (got != want) {
             wrong++;
-            System.out.println(call + " answered " + got + ", due is " + want);
+            System.out.println(heading + call + " answered " + got + ", due is " + want);
         }
     }
 
@@ -31,7 +46,7 @@ final class Due {
         List<Integer> now = snapshot(engine);
         if (!now.equals(before)) {
             wrong++;
-            System.out.println(call + " changed the object from " + before + " to " + now);
+            System.out.println(heading + call + " changed the object from " + before + " to " + now);
         }
     }
 
@@ -44,22 +59,42 @@ final class Due {
 
     /** As snapshot, without lastValue(). */
     static List<Integer> gameSnapshot(DraughtsEngine engine) {
-        List<Integer> answers = new ArrayList<>();
-        for (int square = -1; square <= 32; square++) {
-            answers.add(engine.pieceAt(square));
-        }
+        List<Integer> answers = board(engine);
         answers.add(engine.sideToMove());
         answers.add(engine.status());
         answers.add(engine.drawCounter());
-        answers.add(engine.moveCount());
-        for (int index = -1; index <= engine.moveCount(); index++) {
-            answers.add(engine.moveLength(index));
-            for (int k = -1; k <= engine.moveLength(index); k++) {
+        answers.addAll(moves(engine));
+        answers.addAll(log(engine));
+        return answers;
+    }
+
+    static List<Integer> board(DraughtsEngine engine) {
+        List<Integer> answers = new ArrayList<>();
+        for (int square = 0; square < 32; square++) {
+            answers.add(engine.pieceAt(square));
+        }
+        return answers;
+    }
+
+    static List<Integer> moves(DraughtsEngine engine) {
+        List<Integer> answers = new ArrayList<>();
+        int count = engine.moveCount();
+        answers.add(count);
+        for (int index = 0; index < count; index++) {
+            int length = engine.moveLength(index);
+            answers.add(length);
+            for (int k = 0; k < length; k++) {
                 answers.add(engine.moveSquare(index, k));
             }
         }
-        answers.add(engine.logLength());
-        for (int i = -1; i <= engine.logLength(); i++) {
+        return answers;
+    }
+
+    static List<Integer> log(DraughtsEngine engine) {
+        List<Integer> answers = new ArrayList<>();
+        int length = engine.logLength();
+        answers.add(length);
+        for (int i = 0; i < length; i++) {
             answers.add(engine.logEntry(i));
         }
         return answers;

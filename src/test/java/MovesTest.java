@@ -16,7 +16,6 @@ public final class MovesTest {
         kingsPassTheLastRow();
         aPieceIsJumpedOnce();
         theFirstSquareCountsAsEmpty();
-        longestAndMost();
         sideIsToldAfterTheEnd();
         Due.finish();
     }
@@ -148,18 +147,6 @@ public final class MovesTest {
         DraughtsEngine engine = Positions.of(40, 0, 10, 2, 6, 3, 5, 3, 13, 3, 14, 3, 15, 3);
         Positions.movesAre("through the first square", engine,
                 path(10, 1, 8, 17, 10, 19), path(10, 17, 8, 1, 10, 19), path(10, 19));
-    }
-
-    private static void longestAndMost() {
-        DraughtsEngine engine = Positions.of(40, 0, 0, 2, 1, 2, 3, 4, 4, 2, 5, 2, 7, 2, 8, 4, 9, 4, 10, 4,
-                16, 4, 17, 4, 18, 4, 19, 4, 20, 2, 24, 4, 25, 4, 26, 4, 27, 4);
-        Due.is("many captures", engine.moveCount(), 34);
-        Due.is("many captures", engine.moveLength(34), -1);
-        engine = Positions.of(40, 0, 0, 4, 1, 2, 3, 4, 8, 2, 9, 2, 10, 2, 16, 2, 17, 2, 18, 2, 19, 2,
-                24, 2, 25, 2, 26, 2, 27, 2);
-        Due.is("many simple moves", engine.moveCount(), 42);
-        Due.is("many simple moves", engine.moveLength(41), 2);
-        Due.is("many simple moves", engine.moveLength(42), -1);
     }
 
     private static void sideIsToldAfterTheEnd() {

@@ -38,6 +38,126 @@ final class Positions {
         return plies;
     }
 
+    /** White to move, a log of three entries, counter 3, a search done. */
+    static DraughtsEngine played() {
+        DraughtsEngine engine = of(20, 0, 0, 2, 1, 2, 31, 4);
+        engine.search(1);
+        Due.is("played: lastValue()", engine.lastValue(), 250);
+        shuttle(engine, 3);
+        Due.is("played: drawCounter()", engine.drawCounter(), 3);
+        Due.is("played: logLength()", engine.logLength(), 3);
+        Due.is("played: sideToMove()", engine.sideToMove(), 1);
+        return engine;
+    }
+
+    /** White is barred: white to move, a log of four entries, counter 4, a search done. */
+    static DraughtsEngine blackWon(int drawLimit) {
+        DraughtsEngine engine = of(drawLimit, 1, 16, 2, 17, 2, 20, 2, 29, 2, 28, 4);
+        engine.search(1);
+        Due.is("black won: lastValue()", engine.lastValue(), -750);
+        move(engine, 28, 24);
+        move(engine, 16, 21);
+        move(engine, 24, 28);
+        move(engine, 29, 24);
+        Due.is("black won: status()", engine.status(), DraughtsEngine.BLACK_WINS);
+        Due.is("black won: drawCounter()", engine.drawCounter(), 4);
+        return engine;
+    }
+
+    /** Black is barred: black to move, a log of four entries, counter 4, a search done. */
+    static DraughtsEngine whiteWon(int drawLimit) {
+        DraughtsEngine engine = of(drawLimit, 0, 15, 4, 14, 4, 11, 4, 2, 4, 3, 2);
+        engine.search(1);
+        Due.is("white won: lastValue()", engine.lastValue(), -750);
+        move(engine, 3, 7);
+        move(engine, 15, 10);
+        move(engine, 7, 3);
+        move(engine, 2, 7);
+        Due.is("white won: status()", engine.status(), DraughtsEngine.WHITE_WINS);
+        Due.is("white won: drawCounter()", engine.drawCounter(), 4);
+        return engine;
+    }
+
+    /** Drawn at the limit, a search done; black is to move if the limit is even. */
+    static DraughtsEngine drawn(int drawLimit) {
+        DraughtsEngine engine = of(drawLimit, 0, 0, 2, 1, 2, 31, 4);
+        engine.search(1);
+        Due.is("drawn: lastValue()", engine.lastValue(), 250);
+        shuttle(engine, drawLimit);
+        Due.is("drawn: status()", engine.status(), DraughtsEngine.DRAW);
+        Due.is("drawn: drawCounter()", engine.drawCounter(), drawLimit);
+        return engine;
+    }
+
+    static final int STATES = 6;
+
+    /** State 0 is ongoing; the others are over: won by either, a draw with either to move, the empty board. */
+    static DraughtsEngine ofState(int state) {
+        switch (state) {
+            case 0:
+                return played();
+            case 1:
+                return blackWon(40);
+            case 2:
+                return whiteWon(40);
+            case 3:
+                return drawn(4);
+            case 4:
+                return drawn(5);
+            default:
+                DraughtsEngine empty = new DraughtsEngine(40);
+                empty.search(1);
+                Due.is("empty: lastValue()", empty.lastValue(), 4);
+                empty.reset(true);
+                return empty;
+        }
+    }
+
+    static DraughtsEngine[] ofEveryStatus() {
+        return ofStatesFrom(0);
+    }
+
+    static DraughtsEngine[] ofEveryEnd() {
+        return ofStatesFrom(1);
+    }
+
+    private static DraughtsEngine[] ofStatesFrom(int first) {
+        DraughtsEngine[] engines = new DraughtsEngine[STATES - first];
+        for (int n = 0; n < engines.length; n++) {
+            engines[n] = ofState(first + n);
+        }
+        return engines;
+    }
+
+    /** No position has more capture moves: tried exhaustively, for all sets of foes and kings. */
+    static DraughtsEngine mostCaptures() {
+        return of(40, 0, 0, 2, 1, 2, 3, 4, 4, 2, 5, 2, 7, 2, 8, 4, 9, 4, 10, 4,
+                16, 4, 17, 4, 18, 4, 19, 4, 20, 2, 24, 4, 25, 4, 26, 4, 27, 4);
+    }
+
+    /** Twelve kings that stand apart; no twelve have more simple moves, tried exhaustively. */
+    static DraughtsEngine mostSimpleMoves() {
+        return of(40, 0, 4, 2, 5, 2, 6, 2, 7, 2, 12, 2, 13, 2, 14, 2, 15, 2, 20, 2, 21, 2, 22, 2, 23, 2);
+    }
+
+    /** The king on 0 can take nine foes in one move, which ends on 27. */
+    static DraughtsEngine longestPath() {
+        return of(40, 0, 0, 2, 5, 3, 6, 3, 7, 3, 13, 3, 14, 3, 15, 3, 21, 3, 22, 3, 23, 3, 31, 4);
+    }
+
+    /** Plays the only move of the list that leads from one square to the other. */
+    static void move(DraughtsEngine engine, int from, int to) {
+        int found = -1;
+        for (int index = 0; index < engine.moveCount(); index++) {
+            int last = engine.moveLength(index) - 1;
+            if (engine.moveSquare(index, 0) == from && engine.moveSquare(index, last) == to) {
+                found = index;
+            }
+        }
+        Due.yes("move " + from + " to " + to + " is listed", found >= 0);
+        Due.yes("play(" + found + "), " + from + " to " + to, engine.play(found));
+    }
+
     /** Holds the whole move list against the paths that are due. */
     static void movesAre(String what, DraughtsEngine engine, int[]... paths) {
         Due.is(what + ": moveCount()", engine.moveCount(), paths.length);

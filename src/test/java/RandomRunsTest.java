@@ -18,7 +18,7 @@ public final class RandomRunsTest {
         for (int seed = 0; seed < 400; seed++) {
             manyCaptures(seed);
         }
-        // More than 34 captures or 42 simple moves were never met, so no run reaches the cut at 48.
+        // No position has more than 34 captures or 42 simple moves, so no run can reach the cut at 48.
         Due.yes("the runs met long lists", mostMoves >= 25);
         Due.yes("the runs met draws", draws > 0);
         Due.yes("the runs met full logs", fullLogs > 0);

@@ -89,7 +89,7 @@ public final class SetUpTest {
     }
 
     private static void placeRefusesWrongArguments() {
-        DraughtsEngine engine = playedGame();
+        DraughtsEngine engine = Positions.played();
         List<Integer> before = Due.snapshot(engine);
         for (int square : new int[] {Integer.MIN_VALUE, -32, -1, 32, 33, 64, Integer.MAX_VALUE}) {
             for (int code = -1; code <= 5; code++) {
@@ -132,7 +132,7 @@ public final class SetUpTest {
 
     private static void placeForgetsTheHistory() {
         for (int code : new int[] {0, 2}) {
-            DraughtsEngine engine = playedGame();
+            DraughtsEngine engine = Positions.played();
             int value = engine.lastValue();
             int square = code == 0 ? 16 : 5;
             Due.is("the square holds the code already", engine.pieceAt(square), code);
@@ -172,15 +172,15 @@ public final class SetUpTest {
 
     private static void sideIsSet() {
         for (int side = 0; side <= 1; side++) {
-            DraughtsEngine engine = playedGame();
-            List<Integer> board = Due.snapshot(engine).subList(0, 34);
+            DraughtsEngine engine = Positions.played();
+            List<Integer> board = Due.board(engine);
             int value = engine.lastValue();
             Due.yes("setSideToMove(" + side + ")", engine.setSideToMove(side));
             Due.is("set: sideToMove()", engine.sideToMove(), side);
             Due.is("set: drawCounter()", engine.drawCounter(), 0);
             Due.is("set: logLength()", engine.logLength(), 0);
             Due.is("set: lastValue()", engine.lastValue(), value);
-            Due.yes("set: board", Due.snapshot(engine).subList(0, 34).equals(board));
+            Due.yes("set: board", Due.board(engine).equals(board));
             Due.is("set: first square", engine.moveSquare(0, 0), side == 0 ? 4 : 27);
         }
         DraughtsEngine engine = new DraughtsEngine(40);
@@ -200,23 +200,11 @@ public final class SetUpTest {
     }
 
     private static void sideIsRefused() {
-        DraughtsEngine engine = playedGame();
+        DraughtsEngine engine = Positions.played();
         List<Integer> before = Due.snapshot(engine);
         for (int side : new int[] {Integer.MIN_VALUE, -1, 2, 3, 256, Integer.MAX_VALUE}) {
             Due.no("setSideToMove(" + side + ")", engine.setSideToMove(side));
         }
         Due.unchanged("a refused setSideToMove", engine, before);
-    }
-
-    /** White to move, a log of three entries, counter 3, a search done. */
-    private static DraughtsEngine playedGame() {
-        DraughtsEngine engine = Positions.of(20, 0, 0, 2, 1, 2, 31, 4);
-        engine.search(1);
-        Due.is("value", engine.lastValue(), 250);
-        Positions.shuttle(engine, 3);
-        Due.is("counter", engine.drawCounter(), 3);
-        Due.is("log", engine.logLength(), 3);
-        Due.is("side", engine.sideToMove(), 1);
-        return engine;
     }
 }
