@@ -129,13 +129,13 @@ final class Positions {
         return engines;
     }
 
-    /** No position has more capture moves: tried exhaustively, for all sets of foes and kings. */
+    /** No position has more capture moves: a program, not kept here, tried all sets of foes and kings. */
     static DraughtsEngine mostCaptures() {
         return of(40, 0, 0, 2, 1, 2, 3, 4, 4, 2, 5, 2, 7, 2, 8, 4, 9, 4, 10, 4,
                 16, 4, 17, 4, 18, 4, 19, 4, 20, 2, 24, 4, 25, 4, 26, 4, 27, 4);
     }
 
-    /** Twelve kings that stand apart; no twelve have more simple moves, tried exhaustively. */
+    /** No position has more simple moves: the same program tried all sets of up to twelve kings. */
     static DraughtsEngine mostSimpleMoves() {
         return of(40, 0, 4, 2, 5, 2, 6, 2, 7, 2, 12, 2, 13, 2, 14, 2, 15, 2, 20, 2, 21, 2, 22, 2, 23, 2);
     }

@@ -359,8 +359,10 @@ public final class TermsEdgesTest {
     private static void applyingAMove() {
         Due.sentence("Applying a move", "The piece leaves `p0`; all jumped pieces are removed; the piece is set on `pk`",
                 TermsEdgesTest::whatStandsAfterAMove);
-        Due.sentence("Applying a move", "becomes a king if it is a man and `pk` is on its crowning row.", TermsEdgesTest::onlyMenAreCrowned);
-        Due.sentence("Applying a move", "The draw counter becomes 0 if the move captured or the moving piece was a man; otherwise it grows by 1.",
+        Due.sentence("Applying a move", "becomes a king if it is a man and `pk` is on its crowning row.",
+                TermsEdgesTest::onlyMenAreCrowned);
+        Due.sentence("Applying a move",
+                "The draw counter becomes 0 if the move captured or the moving piece was a man; otherwise it grows by 1.",
                 TermsEdgesTest::whatTheCounterCounts);
         Due.sentence("Applying a move", "The other side is then to move.", TermsEdgesTest::theOtherSideIsToMove);
     }
