@@ -63,6 +63,7 @@ public final class FaceTest {
         for (Field field : face.getDeclaredFields()) {
             if (isSeen(field)) {
                 Due.is(field.toString(), field.getModifiers(), Modifier.PUBLIC | Modifier.STATIC | Modifier.FINAL);
+                Due.yes(field + " is an int", field.getType() == int.class);
                 seen.put(field.getName(), field.getInt(null));
             }
         }
